@@ -14,10 +14,9 @@ public final class FairBlocks {
     private static final int[] FACTORIALS = {1, 1, 2, 6, 24, 120};
 
     private final Text text;
+    private final Bench bench;
     private final Plan plan;
     private final Standing live;
-    private final Standing trial;
-    private final Scheduler scheduler;
     private final Acts acts;
     private final Standing[] kept;
     private final boolean[] isKept;
@@ -29,20 +28,19 @@ public final class FairBlocks {
 
     public FairBlocks() {
         text = new Text();
-        plan = new Plan();
-        live = new Standing();
-        trial = new Standing();
-        scheduler = new Scheduler(plan);
+        bench = new Bench();
+        plan = bench.plan;
+        live = bench.live;
         acts = new Acts();
         kept = new Standing[PLACES];
         for (int i = 0; i < PLACES; i++) {
             kept[i] = new Standing();
         }
         isKept = new boolean[PLACES];
-        outlook = new Outlook(plan, live, trial, scheduler);
-        court = new Court(plan, live, trial, scheduler);
-        sightings = new Sightings(plan, live, trial, scheduler);
-        chances = new Chances(plan, live, trial, scheduler);
+        outlook = new Outlook(bench);
+        court = new Court(bench);
+        sightings = new Sightings(bench);
+        chances = new Chances(bench);
         seedNow = 0L;
     }
 
@@ -101,7 +99,7 @@ public final class FairBlocks {
             return OUTSIDE;
         }
         acts.remember(live);
-        return scheduler.run(live, n);
+        return bench.scheduler.run(live, n);
     }
 
     public int turn(int user) {
@@ -163,8 +161,8 @@ public final class FairBlocks {
         if (!within(n, 0, MOST_SLOTS) || !within(what, 5, 10)) {
             return OUTSIDE;
         }
-        trial.copyFrom(live);
-        scheduler.run(trial, n);
+        Standing trial = bench.freshTrial();
+        bench.scheduler.run(trial, n);
         return trial.users[user].told(what);
     }
 
@@ -172,9 +170,8 @@ public final class FairBlocks {
         if (!within(block, 0, plan.blocks - 1)) {
             return OUTSIDE;
         }
-        trial.copyFrom(live);
-        scheduler.runOne(trial, false);
-        return scheduler.holderOf(block);
+        bench.scheduler.runOne(bench.freshTrial(), false);
+        return bench.scheduler.holderOf(block);
     }
 
     public int longest(int user, int n) {
@@ -267,7 +264,7 @@ public final class FairBlocks {
         if (!within(m, 1, MOST_DRAWN)) {
             return OUTSIDE;
         }
-        trial.copyFrom(live);
+        Standing trial = bench.freshTrial();
         int total = 0;
         for (int i = 0; i < m; i++) {
             seedNow = seedNow * 6364136223846793005L + 1442695040888963407L;
@@ -275,7 +272,7 @@ public final class FairBlocks {
             if (plan.users > 0) {
                 trial.users[v / 16 % plan.users].takeIn(v % 10);
             }
-            total += scheduler.runOne(trial, false);
+            total += bench.scheduler.runOne(trial, false);
         }
         return total;
     }
@@ -430,11 +427,11 @@ public final class FairBlocks {
         }
 
         int rateOf(int user, int clock) {
-            int many = has(user) ? rateCounts[user] : 0;
-            if (many <= 0 || clock < 0) {
+            if (user < 0 || user >= users || clock < 0) {
                 return 0;
             }
-            return rates[user * MOST_RATES + clock % many];
+            int many = rateCounts[user];
+            return many > 0 ? rates[user * MOST_RATES + clock % many] : 0;
         }
     }
 
@@ -518,7 +515,8 @@ public final class FairBlocks {
         }
 
         void takeIn(int more) {
-            queue = Math.min(MOST_QUEUE, queue + more);
+            int all = queue + more;
+            queue = all > MOST_QUEUE ? MOST_QUEUE : all;
         }
 
         /** Has a BLOCK at this rate: what it GOT by it. */
@@ -662,22 +660,20 @@ public final class FairBlocks {
         private boolean isBefore(Standing standing, int i, int j) {
             User one = standing.users[i];
             User other = standing.users[j];
-            int urgency = urgencyOf(one, standing.patience);
-            int otherUrgency = urgencyOf(other, standing.patience);
-            if (urgency != otherUrgency) {
-                return urgency > otherUrgency;
+            boolean repeats = one.toRepeat > 0;
+            if (repeats != other.toRepeat > 0) {
+                return repeats;
             }
-            if (urgency > 0) {
+            boolean looked = standing.patience > 0;
+            boolean urgent = repeats || looked && one.wait >= standing.patience;
+            boolean otherUrgent = repeats || looked && other.wait >= standing.patience;
+            if (urgent != otherUrgent) {
+                return urgent;
+            }
+            if (urgent) {
                 return one.wait > other.wait;
             }
             return rates[i] * one.weight * (other.mean + 1) > rates[j] * other.weight * (one.mean + 1);
-        }
-
-        private static int urgencyOf(User one, int patience) {
-            if (one.toRepeat > 0) {
-                return 2;
-            }
-            return patience > 0 && one.wait >= patience ? 1 : 0;
         }
     }
 
@@ -714,37 +710,44 @@ public final class FairBlocks {
         }
     }
 
+    /** What calls work on: the standing, and a spare one on which SLOTS ahead are tried. */
+    private static final class Bench {
+        final Plan plan = new Plan();
+        final Standing live = new Standing();
+        private final Standing trial = new Standing();
+        final Scheduler scheduler = new Scheduler(plan);
+
+        Standing freshTrial() {
+            trial.copyFrom(live);
+            return trial;
+        }
+    }
+
     /** What SLOTS ahead bring for one USER. */
     private static final class Outlook {
-        private final Plan plan;
-        private final Standing live;
-        private final Standing trial;
-        private final Scheduler scheduler;
+        private final Bench bench;
 
-        Outlook(Plan itsPlan, Standing itsLive, Standing itsTrial, Scheduler itsScheduler) {
-            plan = itsPlan;
-            live = itsLive;
-            trial = itsTrial;
-            scheduler = itsScheduler;
+        Outlook(Bench itsBench) {
+            bench = itsBench;
         }
 
         int longestWait(int user, int n) {
-            trial.copyFrom(live);
+            Standing trial = bench.freshTrial();
             int most = 0;
             for (int i = 0; i < n; i++) {
-                scheduler.runOne(trial, false);
+                bench.scheduler.runOne(trial, false);
                 most = Math.max(most, trial.users[user].wait);
             }
             return most;
         }
 
         int slotsUntilEmpty(int user) {
-            trial.copyFrom(live);
+            Standing trial = bench.freshTrial();
             for (int n = 0; n <= EMPTY_WITHIN; n++) {
                 if (trial.users[user].waiting() == 0) {
                     return n;
                 }
-                scheduler.runOne(trial, false);
+                bench.scheduler.runOne(trial, false);
             }
             return NONE;
         }
@@ -753,10 +756,10 @@ public final class FairBlocks {
             int best = 1;
             int most = -1;
             for (int weight = 1; weight <= 9; weight++) {
-                trial.copyFrom(live);
+                Standing trial = bench.freshTrial();
                 trial.users[user].weight = weight;
-                scheduler.run(trial, BEST_WITHIN);
-                int least = leastGain();
+                bench.scheduler.run(trial, BEST_WITHIN);
+                int least = leastGain(trial);
                 if (least > most) {
                     most = least;
                     best = weight;
@@ -765,10 +768,10 @@ public final class FairBlocks {
             return best;
         }
 
-        private int leastGain() {
-            int least = trial.users[0].got - live.users[0].got;
-            for (int i = 1; i < plan.users; i++) {
-                least = Math.min(least, trial.users[i].got - live.users[i].got);
+        private int leastGain(Standing trial) {
+            int least = trial.users[0].got - bench.live.users[0].got;
+            for (int i = 1; i < bench.plan.users; i++) {
+                least = Math.min(least, trial.users[i].got - bench.live.users[i].got);
             }
             return least;
         }
@@ -776,18 +779,12 @@ public final class FairBlocks {
 
     /** Judges told doings. */
     private static final class Court {
-        private final Plan plan;
-        private final Standing live;
-        private final Standing trial;
+        private final Bench bench;
         private final Standing peek;
-        private final Scheduler scheduler;
 
-        Court(Plan itsPlan, Standing itsLive, Standing itsTrial, Scheduler itsScheduler) {
-            plan = itsPlan;
-            live = itsLive;
-            trial = itsTrial;
+        Court(Bench itsBench) {
+            bench = itsBench;
             peek = new Standing();
-            scheduler = itsScheduler;
         }
 
         /** The least number of more than 3 n figures. */
@@ -800,10 +797,10 @@ public final class FairBlocks {
         }
 
         int firstWrong(int n, long row) {
-            trial.copyFrom(live);
+            Standing trial = bench.freshTrial();
             for (int place = 0; place < n; place++) {
                 int doing = (int) (row / unitOf(n - 1 - place) % 1000L);
-                if (!holds(doing / 100, doing / 10 % 10, doing % 10)) {
+                if (!holds(trial, doing / 100, doing / 10 % 10, doing % 10)) {
                     return place;
                 }
             }
@@ -811,10 +808,11 @@ public final class FairBlocks {
         }
 
         /** Does it, if it can be done; asks it, if it is to be asked. */
-        private boolean holds(int kind, int second, int third) {
+        private boolean holds(Standing trial, int kind, int second, int third) {
+            Plan plan = bench.plan;
             switch (kind) {
                 case 1:
-                    scheduler.run(trial, 10 * second + third);
+                    bench.scheduler.run(trial, 10 * second + third);
                     return second > 0 || third > 0;
                 case 2:
                 case 3:
@@ -824,7 +822,7 @@ public final class FairBlocks {
                 case 5:
                     return plan.has(second) && trial.users[second].wait == third;
                 case 6:
-                    return plan.has(second) && third < plan.blocks && holderNext(third) == second;
+                    return plan.has(second) && third < plan.blocks && holderBehind(trial, third) == second;
                 case 7:
                     return plan.has(second) && third <= 1
                             && (trial.users[second].waiting() > 0) == (third == 1);
@@ -847,19 +845,17 @@ public final class FairBlocks {
             return true;
         }
 
-        private int holderNext(int block) {
+        /** Who has that BLOCK of the next SLOT; trial stays as it is. */
+        private int holderBehind(Standing trial, int block) {
             peek.copyFrom(trial);
-            scheduler.runOne(peek, false);
-            return scheduler.holderOf(block);
+            bench.scheduler.runOne(peek, false);
+            return bench.scheduler.holderOf(block);
         }
     }
 
     /** What was SEEN, and who may be OFF by it. */
     private static final class Sightings {
-        private final Plan plan;
-        private final Standing live;
-        private final Standing trial;
-        private final Scheduler scheduler;
+        private final Bench bench;
         private final int[] slots = new int[MOST_SEEN];
         private final int[] users = new int[MOST_SEEN];
         private final int[] whats = new int[MOST_SEEN];
@@ -867,11 +863,8 @@ public final class FairBlocks {
         private final int[] wases = new int[MOST_SEEN];
         int size = 0;
 
-        Sightings(Plan itsPlan, Standing itsLive, Standing itsTrial, Scheduler itsScheduler) {
-            plan = itsPlan;
-            live = itsLive;
-            trial = itsTrial;
-            scheduler = itsScheduler;
+        Sightings(Bench itsBench) {
+            bench = itsBench;
         }
 
         void add(int n, int user, int what, int v, int was) {
@@ -887,8 +880,8 @@ public final class FairBlocks {
 
         int suspects() {
             int bits = 0;
-            for (int i = 0; i < plan.users; i++) {
-                if (!live.users[i].off && fits(i)) {
+            for (int i = 0; i < bench.plan.users; i++) {
+                if (!bench.live.users[i].off && fits(i)) {
                     bits |= 1 << i;
                 }
             }
@@ -896,14 +889,14 @@ public final class FairBlocks {
         }
 
         private boolean fits(int suspect) {
-            trial.copyFrom(live);
+            Standing trial = bench.freshTrial();
             trial.users[suspect].off = true;
             int last = lastSlot();
             for (int n = 0; n <= last; n++) {
                 if (n > 0) {
-                    scheduler.runOne(trial, false);
+                    bench.scheduler.runOne(trial, false);
                 }
-                if (!fitsBehind(n)) {
+                if (!fitsBehind(trial, n)) {
                     return false;
                 }
             }
@@ -918,9 +911,9 @@ public final class FairBlocks {
             return last;
         }
 
-        private boolean fitsBehind(int n) {
+        private boolean fitsBehind(Standing trial, int n) {
             for (int i = 0; i < size; i++) {
-                if (slots[i] == n && plan.has(users[i])) {
+                if (slots[i] == n && bench.plan.has(users[i])) {
                     User one = trial.users[users[i]];
                     int figure = whats[i] == 0 ? one.wait : one.waiting();
                     if ((figure == figures[i]) != (wases[i] == 1)) {
@@ -934,20 +927,14 @@ public final class FairBlocks {
 
     /** FRACTIONS: shares of users, and slots that fail by chance. */
     private static final class Chances {
-        private final Plan plan;
-        private final Standing live;
-        private final Standing trial;
-        private final Scheduler scheduler;
+        private final Bench bench;
 
-        Chances(Plan itsPlan, Standing itsLive, Standing itsTrial, Scheduler itsScheduler) {
-            plan = itsPlan;
-            live = itsLive;
-            trial = itsTrial;
-            scheduler = itsScheduler;
+        Chances(Bench itsBench) {
+            bench = itsBench;
         }
 
         int shareOf(int user, boolean upper) {
-            int all = (1 << plan.users) - 1 & ~live.offBits(plan.users);
+            int all = (1 << bench.plan.users) - 1 & ~bench.live.offBits(bench.plan.users);
             int many = Integer.bitCount(all);
             int mine = 1 << user;
             int sum = 0;
@@ -963,11 +950,11 @@ public final class FairBlocks {
         }
 
         private int gotWith(int there) {
-            trial.copyFrom(live);
-            for (int i = 0; i < plan.users; i++) {
+            Standing trial = bench.freshTrial();
+            for (int i = 0; i < bench.plan.users; i++) {
                 trial.users[i].off = (there >> i & 1) == 0;
             }
-            return scheduler.run(trial, SHARE_WITHIN);
+            return bench.scheduler.run(trial, SHARE_WITHIN);
         }
 
         int emptyBehind(int user, int n, int x, boolean upper) {
@@ -983,9 +970,9 @@ public final class FairBlocks {
         }
 
         private boolean isEmptyBehind(int user, int n, int failing) {
-            trial.copyFrom(live);
+            Standing trial = bench.freshTrial();
             for (int i = 0; i < n; i++) {
-                scheduler.runOne(trial, (failing >> i & 1) == 1);
+                bench.scheduler.runOne(trial, (failing >> i & 1) == 1);
             }
             return trial.users[user].waiting() == 0;
         }
