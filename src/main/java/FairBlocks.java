@@ -651,7 +651,7 @@ public final class FairBlocks {
         }
 
         private boolean mayHave(User one, int user, int block) {
-            if (one.off || rates[user] <= 0 || one.waiting() == 0) {
+            if (one.off || rates[user] <= 0 || one.queue == 0 && one.toRepeat == 0) {
                 return false;
             }
             return latestBlock[user] == NO_BLOCK || latestBlock[user] == block - 1;
