@@ -78,6 +78,15 @@ public final class ChancesTest {
         return all;
     }
 
+    private static FairBlocks threeSlotsOn(String cell, boolean oneIsOff) {
+        FairBlocks x = Check.cell(cell);
+        x.slot(3);
+        if (oneIsOff) {
+            x.turn(1);
+        }
+        return x;
+    }
+
     /** What comes more by the user in one order, of those that are there now. */
     private static int moreByOrder(FairBlocks x, List<Integer> order, int user) {
         for (int one : order) {
@@ -112,11 +121,9 @@ public final class ChancesTest {
         String[] cells = {"C212u9125.u39041.u5109.", "C321u3415312.u210207.u05090.u7308.",
             "C430u9119.u9939.u1101.u2102.u4505.", "C111u9909.u9101.u4217.u35356.u66208."};
         for (int k = 0; k < 2 * cells.length; k++) {
-            FairBlocks x = Check.cell(cells[k / 2]);
-            x.slot(3);
-            if (k % 2 == 1) {
-                x.turn(1);
-            }
+            String cell = cells[k / 2];
+            boolean oneIsOff = k % 2 == 1;
+            FairBlocks x = threeSlotsOn(cell, oneIsOff);
             List<Integer> on = new ArrayList<>();
             for (int i = 0; i < x.count(1); i++) {
                 if (x.user(i, 4) == 0) {
@@ -128,7 +135,7 @@ public final class ChancesTest {
             for (int user : on) {
                 long sum = 0;
                 for (List<Integer> order : all) {
-                    sum += moreByOrder(x, order, user);
+                    sum += moreByOrder(threeSlotsOn(cell, oneIsOff), order, user);
                 }
                 int common = BigInteger.valueOf(sum).gcd(BigInteger.valueOf(all.size())).intValueExact();
                 shareIs(x, user, (int) sum / common, all.size() / common);

