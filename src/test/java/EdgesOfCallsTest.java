@@ -568,6 +568,19 @@ public final class EdgesOfCallsTest {
         y.slot(1);
         CHECK.due("AGAIN alone", 10 * y.user(1, QUEUE) + y.user(1, AGAIN), 5);
         CHECK.due("that counts", y.count(7), 2);
+        // All five of x are off or have something still: in a smaller cell nothing of them is left.
+        for (int many = 4; many >= 0; many--) {
+            x.slot(1);
+            CHECK.due("off ahead of the smaller cell", x.count(6), (2 << many) - 1);
+            CHECK.due("something ahead of the smaller cell", x.count(7), (2 << many) - 1);
+            x.wipe();
+            Check.write(x, "C110" + "u1100.".repeat(many)).cell();
+            CHECK.due("off, of " + many + " users", x.count(6), 0);
+            CHECK.due("something, of " + many + " users", x.count(7), 0);
+            for (int user = 0; user < many; user++) {
+                x.turn(user);
+            }
+        }
     }
 
     @Says(at = "Promise 28", value = "0 letters of THE TEXT, 1 USERS, 2 B, 3 SHIFT, 4 PATIENCE, 5 THE CLOCK")
