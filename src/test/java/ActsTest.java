@@ -297,32 +297,40 @@ public final class ActsTest {
         CHECK.due("count(4)", x.count(4), 9);
     }
 
+    private static void act(FairBlocks x, int i) {
+        switch (i) {
+            case 0 -> x.slot(5);
+            case 1 -> x.turn(1);
+            case 2 -> x.drop(0);
+            case 3 -> x.set(0, 0, 1);
+            case 4 -> x.set(1, 1, 1);
+            case 5 -> x.set(1, 2, 1);
+            default -> x.patience(7);
+        }
+    }
+
     private static void undoOfEach() {
-        FairBlocks x = Check.cell("C212u9125.u39041.");
-        String[] before = new String[7];
-        x.slot(3);
-        for (int i = 0; i < before.length; i++) {
-            before[i] = Check.standing(x);
-            switch (i) {
-                case 0 -> x.slot(5);
-                case 1 -> x.turn(1);
-                case 2 -> x.drop(0);
-                case 3 -> x.set(0, 0, 1);
-                case 4 -> x.set(1, 1, 1);
-                case 5 -> x.set(1, 2, 1);
-                default -> x.patience(7);
+        for (int i = 0; i <= 6; i++) {
+            FairBlocks x = Check.cell("C212u9125.u39041.");
+            x.slot(3);
+            String first = Check.standing(x);
+            for (int earlier = 0; earlier < i; earlier++) {
+                act(x, earlier);
             }
-            CHECK.holds("act " + i + " does something", !before[i].equals(Check.standing(x)));
-        }
-        x.seed(5);
-        x.see(0, 0, 0, 0, 0);
-        for (int i = before.length - 1; i >= 0; i--) {
+            String before = Check.standing(x);
+            act(x, i);
+            CHECK.holds("act " + i + " does something", !before.equals(Check.standing(x)));
+            x.seed(5);
+            x.see(0, 0, 0, 0, 0);
             CHECK.due("undo of act " + i, x.undo(), i + 1);
-            CHECK.holds("as it was ahead of act " + i,
-                before[i].equals(withoutSeen(Check.standing(x))));
+            CHECK.holds("as it was ahead of act " + i, before.equals(withoutSeen(Check.standing(x))));
+            for (int earlier = i - 1; earlier >= 0; earlier--) {
+                CHECK.due("undo of act " + earlier, x.undo(), earlier + 1);
+            }
+            CHECK.holds("as it was ahead of all", first.equals(withoutSeen(Check.standing(x))));
+            CHECK.due("the seed is no act", x.seed(0), 5);
+            CHECK.due("what is seen is no act", x.count(9), 1);
         }
-        CHECK.due("the seed is no act", x.seed(0), 5);
-        CHECK.due("what is seen is no act", x.count(9), 1);
     }
 
     /** The standing with nothing seen: the tenth number is 0. */
