@@ -199,7 +199,7 @@ public final class FairBlocks {
     }
 
     public int judge(int n, long row) {
-        if (!within(n, 1, MOST_DOINGS) || row < 0L || row >= Court.unitOf(n)) {
+        if (!within(n, 1, MOST_DOINGS) || row < 0L || row >= Court.leastTooLong(n)) {
             return OUTSIDE;
         }
         return court.firstWrong(n, row);
@@ -788,23 +788,32 @@ public final class FairBlocks {
         }
 
         /** The least number of more than 3 n figures. */
-        static long unitOf(int n) {
-            long unit = 1L;
+        static long leastTooLong(int n) {
+            long least = 1L;
             for (int i = 0; i < n && i < MOST_DOINGS; i++) {
-                unit *= 1000L;
+                least *= 1000L;
             }
-            return unit;
+            return least;
         }
 
         int firstWrong(int n, long row) {
             Standing trial = bench.freshTrial();
             for (int place = 0; place < n; place++) {
-                int doing = (int) (row / unitOf(n - 1 - place) % 1000L);
+                int doing = doingAt(row, n - 1 - place);
                 if (!holds(trial, doing / 100, doing / 10 % 10, doing % 10)) {
                     return place;
                 }
             }
             return NONE;
+        }
+
+        /** The three figures that have so many doings behind them. */
+        private static int doingAt(long row, int behind) {
+            long rest = row;
+            for (int i = 0; i < behind; i++) {
+                rest /= 1000L;
+            }
+            return (int) (rest % 1000L);
         }
 
         /** Does it, if it can be done; asks it, if it is to be asked. */

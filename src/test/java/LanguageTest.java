@@ -5,8 +5,10 @@ import java.lang.reflect.Method;
 import java.lang.reflect.Modifier;
 import java.nio.file.Files;
 import java.nio.file.Path;
+import java.util.Arrays;
 import java.util.Set;
 import java.util.TreeSet;
+import java.util.regex.Matcher;
 import java.util.regex.Pattern;
 
 /** What LANGUAGE.md says of the file: its face, words that are not in it, no call that throws, little room. */
@@ -29,6 +31,7 @@ public final class LanguageTest {
         face();
         constants();
         words();
+        divisors();
         strangeArguments();
         room();
         CHECK.end();
@@ -89,12 +92,36 @@ public final class LanguageTest {
     }
 
     private static void words() throws Exception {
-        String source = Files.readString(Path.of("src/main/java/FairBlocks.java"));
-        String bare = source.replaceAll("(?s)/\\*.*?\\*/", "").replaceAll("//[^\n]*", "");
+        String source = source();
+        String bare = bare(source);
         for (String word : FORBIDDEN) {
             CHECK.holds("the file has no " + word, !Pattern.compile(word).matcher(bare).find());
         }
         CHECK.holds("letters 1 to 127 alone", source.chars().allMatch(c -> c > 0 && c < 128));
+    }
+
+    private static String source() throws Exception {
+        return Files.readString(Path.of("src/main/java/FairBlocks.java"));
+    }
+
+    private static String bare(String source) {
+        return source.replaceAll("(?s)/\\*.*?\\*/", "").replaceAll("//[^\n]*", "");
+    }
+
+    /** What divides is a number, a constant, or a name that was held against 0 a few lines ahead or in its own. */
+    private static void divisors() throws Exception {
+        String[] lines = bare(source()).split("\n");
+        Pattern division = Pattern.compile("[/%]=?\\s*([A-Za-z_0-9.]*\\(?)");
+        for (int i = 0; i < lines.length; i++) {
+            String near = String.join("\n", Arrays.copyOfRange(lines, Math.max(0, i - 4), i + 1));
+            Matcher found = division.matcher(lines[i]);
+            while (found.find()) {
+                String by = found.group(1);
+                boolean fixed = by.matches("[1-9][0-9]*L?|[A-Z_]+");
+                boolean looked = Pattern.compile("\\b" + Pattern.quote(by) + " (>|!=|<=) 0").matcher(near).find();
+                CHECK.holds("a divisor is looked at: " + lines[i].strip(), fixed || looked);
+            }
+        }
     }
 
     private static long argument(Class<?> kind, int strange) {
